@@ -61,7 +61,7 @@ public final class LazyBlocks {
         if (made >= MOST_MADE) {
             return FULL;
         }
-        int address = findCell(classFor(n));
+        int address = cellFor(classFor(n));
         if (address == NOWHERE) {
             return FULL;
         }
@@ -309,7 +309,7 @@ public final class LazyBlocks {
         }
     }
 
-    private int findCell(int c) {
+    private int cellFor(int c) {
         int address = blocks.findCell(c);
         if (address == NOWHERE) {
             markAll();
@@ -619,7 +619,7 @@ public final class LazyBlocks {
         }
 
         int classOf(int b) {
-            return has(b) ? classes[b] : NONE;
+            return b >= 0 && b < classes.length ? classes[b] : NONE;
         }
 
         boolean isUnswept(int b) {
@@ -712,16 +712,19 @@ public final class LazyBlocks {
             if (!isUnswept(b)) {
                 return;
             }
+            int kept = 0;
             int cells = cellsIn(b);
             for (int i = 0; i < cells; i++) {
                 int address = cellOf(b, i);
-                if (!marks.has(address)) {
+                if (marks.has(address)) {
+                    kept++;
+                } else {
                     store.remove(address);
                 }
             }
             unswept[b] = false;
             sweeps++;
-            if (objectsIn(b) == 0) {
+            if (kept == 0) {
                 classes[b] = NONE;
             }
         }

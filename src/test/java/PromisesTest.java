@@ -176,6 +176,20 @@ public final class PromisesTest {
         counts(x, 1, 16, 4, 1, 2, 2, 0);
     }
 
+    private static void makeStopsAtFree() {
+        LazyBlocks x = new LazyBlocks(4);
+        fillSixCells(x);
+        x.drop(2);
+        x.drop(3);
+        x.drop(5);
+        x.mark();
+        makes(x, 2, 15, 32);
+        cells(x, 0, 3, 0, 2, 0);
+        cells(x, 1, 3, 0, 1, 1);
+        cells(x, 2, 3, 1, 2, 0);
+        counts(x, 5, 80, 7, 1, 2, 1, 1);
+    }
+
     private static void makeSweepsOtherClasses() {
         LazyBlocks x = new LazyBlocks(4);
         makes(x, 0, 1, 0);
@@ -225,9 +239,10 @@ public final class PromisesTest {
         due("number", x.number(0, 0), Integer.MIN_VALUE);
         due("number", x.number(0, 14), Integer.MAX_VALUE);
         due("number", x.number(0, 13), 0);
-        x.link(0, 0, 0, true);
+        makes(x, 3, 15, 16);
+        x.link(0, 0, 3, true);
         due("number of a weak one", x.number(0, 0), 0);
-        x.link(0, 14, 0, false);
+        x.link(0, 14, 3, false);
         due("number of one that refers", x.number(0, 14), 0);
         due("set", x.set(0, 14, -5), 0);
         due("refers", x.refers(0, 14), 0);
@@ -611,6 +626,10 @@ public final class PromisesTest {
         due("sum(1)", x.sum(1), 6758L + 1);
         x.link(1, 0, 0, false);
         due("sum(1)", x.sum(1), 31 * (6758L + 4));
+        x.make(2, 2);
+        x.link(2, 0, 0, true);
+        x.link(2, 1, 0, false);
+        due("a weak field adds 2, come to or not", x.sum(2), 31 * (31 * (31 * (31 * 7 + 2) + 2) + 4));
     }
 
     /** Root a (fields b, c, a), b (fields d, c), c (no fields), d (one number): taken as a, b, c, d. */
@@ -665,6 +684,7 @@ public final class PromisesTest {
         part = "2 make: past full blocks"; makeGoesPastFullBlocks();
         part = "2 make: sweeps for an empty cell"; makeSweepsForEmptyCell();
         part = "2 make: least FREE"; makeTakesLeastFree();
+        part = "2 make: stops at FREE"; makeStopsAtFree();
         part = "2 make: sweeps other classes"; makeSweepsOtherClasses();
         part = "2 make: marks"; makeMarksThenOnceMore();
         part = "3 set, 6 number"; setAndNumber();
