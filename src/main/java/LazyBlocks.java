@@ -584,11 +584,11 @@ public final class LazyBlocks {
         }
 
         int takeFirst() {
-            if (size <= 0) {
+            if (size <= 0 || members.length == 0) {
                 return NOWHERE;
             }
             int first = members[0];
-            for (int i = 1; i < size; i++) {
+            for (int i = 1; i < size && i < members.length; i++) {
                 members[i - 1] = members[i];
             }
             size--;

@@ -1,36 +1,7 @@
 import java.math.BigInteger;
 
 /** For each promise of the document: ordinary inputs, the edges that it names, and wrong inputs. */
-public final class PromisesTest {
-    private static int wrong = 0;
-    private static String part = "";
-
-    private static void due(String call, long got, long want) {
-        if (got != want) {
-            wrong++;
-            System.out.println(part + ": " + call + " answered " + got + ", due is " + want);
-        }
-    }
-
-    private static void counts(LazyBlocks x, int... want) {
-        for (int what = 0; what < want.length; what++) {
-            due("count(" + what + ")", x.count(what), want[what]);
-        }
-    }
-
-    private static void cells(LazyBlocks x, int b, int c, int unswept, int objects, int empty) {
-        due("block(" + b + ", 0)", x.block(b, 0), c);
-        due("block(" + b + ", 1)", x.block(b, 1), unswept);
-        due("block(" + b + ", 2)", x.block(b, 2), objects);
-        due("block(" + b + ", 3)", x.block(b, 3), empty);
-    }
-
-    private static void makes(LazyBlocks x, int root, int n, int address) {
-        int made = x.count(2);
-        due("make(" + root + ", " + n + ")", x.make(root, n), made);
-        due("object(" + root + ", 1)", x.object(root, 1), address);
-    }
-
+public final class PromisesTest extends Due {
     private static void newObject() {
         int[][] sizes = {
             {Integer.MIN_VALUE, 1}, {-1, 1}, {0, 1}, {1, 1}, {2, 2}, {15, 15}, {16, 16}, {17, 16},
@@ -100,15 +71,9 @@ public final class PromisesTest {
         due("not marked", x.object(5, 5), 0);
     }
 
-    private static void fillSixCells(LazyBlocks x) {
-        for (int root = 0; root < 6; root++) {
-            makes(x, root, 15, 16 * root);
-        }
-    }
-
     private static void makeSweepsItsClass() {
         LazyBlocks x = new LazyBlocks(4);
-        fillSixCells(x);
+        fill(x, 6);
         x.drop(0);
         x.drop(3);
         x.drop(5);
@@ -127,7 +92,7 @@ public final class PromisesTest {
 
     private static void makeGoesPastFullBlocks() {
         LazyBlocks x = new LazyBlocks(4);
-        fillSixCells(x);
+        fill(x, 6);
         x.drop(2);
         x.mark();
         makes(x, 2, 15, 32);
@@ -178,7 +143,7 @@ public final class PromisesTest {
 
     private static void makeStopsAtFree() {
         LazyBlocks x = new LazyBlocks(4);
-        fillSixCells(x);
+        fill(x, 6);
         x.drop(2);
         x.drop(3);
         x.drop(5);
@@ -488,23 +453,22 @@ public final class PromisesTest {
     private static void markDeep() {
         LazyBlocks x = new LazyBlocks(16);
         makes(x, 0, 1, 0);
-        for (int i = 1; i < 240; i++) {
-            due("make", x.make(1, 1), i);
-            x.link(1, 0, 0, false);
-            x.copy(0, 1);
+        for (int i = 1; i < 192; i++) {
+            due("make", x.make(i % 2, 1), i);
+            due("link", x.link(i % 2, 0, (i + 1) % 2, false), 0);
         }
-        x.drop(1);
-        due("count(9)", x.count(9), 240);
-        due("mark()", x.mark(), 240);
         x.drop(0);
+        due("count(9)", x.count(9), 192);
+        due("mark()", x.mark(), 192);
+        x.drop(1);
         due("mark()", x.mark(), 0);
-        counts(x, 240, 480, 240, 2, 0, 1, 15, 0, 0, 0);
+        counts(x, 192, 384, 192, 2, 0, 4, 12, 0, 0, 0);
         due("mark()", x.mark(), 0);
-        for (int b = 0; b < 15; b++) {
+        for (int b = 0; b < 12; b++) {
             due("sweep()", x.sweep(), b);
         }
         due("sweep()", x.sweep(), -1);
-        counts(x, 0, 0, 240, 3, 15, 16, 0, 0, 0, 0);
+        counts(x, 0, 0, 192, 3, 12, 16, 0, 0, 0, 0);
     }
 
     private static void sweepByNumbers() {
@@ -675,39 +639,36 @@ public final class PromisesTest {
     }
 
     public static void main(String[] args) {
-        part = "constants"; constants();
-        part = "1 new object"; newObject();
-        part = "2 make: classes"; makeClasses();
-        part = "2 make: wrong inputs, FULL"; makeWrong();
-        part = "2 make: used cell"; makeInUsedCell();
-        part = "2 make: sweeps its class"; makeSweepsItsClass();
-        part = "2 make: past full blocks"; makeGoesPastFullBlocks();
-        part = "2 make: sweeps for an empty cell"; makeSweepsForEmptyCell();
-        part = "2 make: least FREE"; makeTakesLeastFree();
-        part = "2 make: stops at FREE"; makeStopsAtFree();
-        part = "2 make: sweeps other classes"; makeSweepsOtherClasses();
-        part = "2 make: marks"; makeMarksThenOnceMore();
-        part = "3 set, 6 number"; setAndNumber();
-        part = "4 link, 5 refers"; linkAndRefers();
-        part = "7 load, 8 copy"; loadAndCopy();
-        part = "7 load: weakly held"; loadWeaklyHeld();
-        part = "9 drop, 18 same"; dropAndSame();
-        part = "10 watch"; watchOn();
-        part = "11 next: by names"; nextByNames();
-        part = "11 next: pair"; nextOfWatchedPair();
-        part = "12 mark: weak fields"; markWeakFields();
-        part = "12 mark: deep"; markDeep();
-        part = "13 sweep"; sweepByNumbers();
-        part = "14 object"; objectTells();
-        part = "15 at"; atWords();
-        part = "16 block, 17 count: wrong inputs"; blockAndCountWrong();
-        part = "17 count: leaves marks"; countLeavesMarks();
-        part = "19 sum"; sums();
-        part = "19 sum: order"; sumInOrder();
-        part = "19 sum: runs over"; sumRunsOver();
-        System.out.println(wrong == 0 ? "all answers are as due" : wrong + " answers are not as due");
-        if (wrong != 0) {
-            System.exit(1);
-        }
+        holds("constants", PromisesTest::constants);
+        holds("1 new object", PromisesTest::newObject);
+        holds("2 make: classes", PromisesTest::makeClasses);
+        holds("2 make: wrong inputs, FULL", PromisesTest::makeWrong);
+        holds("2 make: used cell", PromisesTest::makeInUsedCell);
+        holds("2 make: sweeps its class", PromisesTest::makeSweepsItsClass);
+        holds("2 make: past full blocks", PromisesTest::makeGoesPastFullBlocks);
+        holds("2 make: sweeps for an empty cell", PromisesTest::makeSweepsForEmptyCell);
+        holds("2 make: least FREE", PromisesTest::makeTakesLeastFree);
+        holds("2 make: stops at FREE", PromisesTest::makeStopsAtFree);
+        holds("2 make: sweeps other classes", PromisesTest::makeSweepsOtherClasses);
+        holds("2 make: marks", PromisesTest::makeMarksThenOnceMore);
+        holds("3 set, 6 number", PromisesTest::setAndNumber);
+        holds("4 link, 5 refers", PromisesTest::linkAndRefers);
+        holds("7 load, 8 copy", PromisesTest::loadAndCopy);
+        holds("7 load: weakly held", PromisesTest::loadWeaklyHeld);
+        holds("9 drop, 18 same", PromisesTest::dropAndSame);
+        holds("10 watch", PromisesTest::watchOn);
+        holds("11 next: by names", PromisesTest::nextByNames);
+        holds("11 next: pair", PromisesTest::nextOfWatchedPair);
+        holds("12 mark: weak fields", PromisesTest::markWeakFields);
+        holds("12 mark: deep", PromisesTest::markDeep);
+        holds("13 sweep", PromisesTest::sweepByNumbers);
+        holds("14 object", PromisesTest::objectTells);
+        holds("15 at", PromisesTest::atWords);
+        holds("16 block, 17 count: wrong inputs", PromisesTest::blockAndCountWrong);
+        holds("17 count: leaves marks", PromisesTest::countLeavesMarks);
+        holds("19 sum", PromisesTest::sums);
+        holds("19 sum: order", PromisesTest::sumInOrder);
+        holds("19 sum: runs over", PromisesTest::sumRunsOver);
+        end();
     }
 }
