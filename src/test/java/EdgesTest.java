@@ -215,6 +215,22 @@ public final class EdgesTest extends Due {
         due("not weakly now", x.refers(0, 0), 1);
     }
 
+    private static void refersOfEachKind() {
+        LazyBlocks x = new LazyBlocks(2);
+        makes(x, 0, 15, 0);
+        makes(x, 1, 0, 32);
+        for (int f : new int[] {0, 14}) {
+            due("at first", x.refers(0, f), 0);
+            x.link(0, f, 1, false);
+            due("refers(0, " + f + ")", x.refers(0, f), 1);
+            x.link(0, f, 1, true);
+            due("weakly", x.refers(0, f), 2);
+            x.set(0, f, 1);
+            due("a number", x.refers(0, f), 0);
+            due("the field between", x.refers(0, 7), 0);
+        }
+    }
+
     private static void numberIs0IfItRefers() {
         LazyBlocks x = new LazyBlocks(2);
         makes(x, 0, 3, 0);
@@ -721,7 +737,8 @@ public final class EdgesTest extends Due {
         holds("3: A field of a root's object, no other one", EdgesTest::fieldsOfNeighboursStayApart);
         holds("4: what a root (perhaps the same) refers to", EdgesTest::linkPerhapsTheSame);
         holds("4: comes to refer, weakly or not", EdgesTest::linkToAnObjectNotARoot);
-        holds("5, 6: 0 if it refers", EdgesTest::numberIs0IfItRefers);
+        holds("5: a number (0), refers (1), or refers weakly (2)", EdgesTest::refersOfEachKind);
+        holds("6: 0 if it refers", EdgesTest::numberIs0IfItRefers);
         holds("7: (weakly, too)", EdgesTest::loadWeaklyToo);
         holds("7: A root comes to refer to it: the same root", EdgesTest::loadIntoTheRootItself);
         holds("8: to none if that does: NONE", EdgesTest::copyOfNone);

@@ -239,6 +239,23 @@ public final class TermsTest extends Due {
         due("referred to no more", x.mark(), 2);
     }
 
+    /** The cell has more words than fields, and the former object's last field referred to another. */
+    private static void onlyFieldsThatItHas() {
+        LazyBlocks x = new LazyBlocks(1);
+        makes(x, 0, 3, 0);
+        makes(x, 1, 3, 4);
+        x.link(0, 2, 1, false);
+        drops(x, 0);
+        due("mark()", x.mark(), 1);
+        makes(x, 0, 2, 0);
+        drops(x, 1);
+        due("count(9)", x.count(9), 1);
+        due("mark()", x.mark(), 1);
+        due("refers(0, 2)", x.refers(0, 2), BAD);
+        due("sweep()", x.sweep(), 0);
+        due("at(4)", x.at(4), NONE);
+    }
+
     private static void notWeakly() {
         LazyBlocks x = new LazyBlocks(1);
         makes(x, 0, 3, 0);
@@ -742,6 +759,7 @@ public final class TermsTest extends Due {
         holds("(2) What roots refer to", TermsTest::whatRootsReferTo);
         holds("(2) and objects in THE QUEUE, is marked", TermsTest::objectsInTheQueue);
         holds("(2) and what fields of marked ones refer to", TermsTest::whatFieldsReferTo);
+        holds("(2) what FIELDS refer to, not words behind them", TermsTest::onlyFieldsThatItHas);
         holds("(2) (not weakly)", TermsTest::notWeakly);
         holds("(2) is marked: not what nobody holds", TermsTest::circleThatNobodyHolds);
         holds("(3) Weak fields have the number 0 then", TermsTest::weakFieldsAreCut);
